@@ -336,8 +336,9 @@ public final class FastBlocks {
         }
 
         void addNumber(long v, int bytes) {
-            for (int i = 0; i < bytes; i++) {
-                add((int) (v >>> (8 * i)));
+            for (int i = 0; i < bytes && count < held.length; i++) {
+                held[count] = (byte) (v >>> (8 * i));
+                count++;
             }
         }
 
@@ -503,23 +504,35 @@ public final class FastBlocks {
     /** What a block leans on and, behind it, the block; finds what stands before, too. */
     private static final class Text {
         private static final int MOST = MOST_DICTIONARY + MOST_INPUT;
+        private static final int NOWHERE = -1;
         private final byte[] held = new byte[MOST];
-        // For each place the nearest one before it with the same byte, or -1.
+        // For each place the nearest one before it with the same byte, and for each byte its latest place.
         private final int[] before = new int[MOST];
         private final int[] latest = new int[256];
         private int count;
+        // How far back the latest reach() found the most.
+        private int foundOffset;
+        // The latest place of reachDownward(), with its limit and what was found there.
+        private int downPlace;
+        private int downLimit;
+        private int downMost;
+        private int downOffset;
 
         void load(Bytes lean, Bytes bytes, int from, int n) {
-            count = 0;
-            Arrays.fill(latest, -1);
+            clear();
             append(lean, 0, lean.size());
             append(bytes, from, n);
         }
 
         void loadAlone(Bytes bytes, int from, int n) {
-            count = 0;
-            Arrays.fill(latest, -1);
+            clear();
             append(bytes, from, n);
+        }
+
+        private void clear() {
+            count = 0;
+            downPlace = NOWHERE;
+            Arrays.fill(latest, NOWHERE);
         }
 
         private void append(Bytes bytes, int from, int n) {
@@ -540,12 +553,45 @@ public final class FastBlocks {
             int best = 0;
             int from = before[place];
             for (int tries = 0; tries < count && from >= 0 && place - from <= span && best < limit; tries++) {
+                int same = 0;
                 if (held[from + best] == held[place + best]) {
-                    best = Math.max(best, alike(from, place, limit));
+                    while (same < limit && held[from + same] == held[place + same]) {
+                        same++;
+                    }
+                }
+                if (same > best) {
+                    best = same;
+                    foundOffset = place - from;
                 }
                 from = before[from];
             }
             return best;
+        }
+
+        /**
+         * As reach() of any span, quicker for places that come one after the other, the last one first: what stands
+         * from some offset at a place stands but for its first byte from there at the next one, so that there can be
+         * but one byte more than were found there.
+         */
+        int reachDownward(int place, int limit) {
+            boolean nothing = place < 0 || limit < 1 || limit > count - place;
+            boolean follows = place == downPlace - 1 && limit <= downLimit + 1;
+            int bound = follows ? Math.min(limit, downMost + 1) : limit;
+            downPlace = place;
+            downLimit = nothing ? 0 : limit;
+            if (nothing) {
+                downMost = 0;
+            } else if (follows && downMost > 0 && bound > downMost && goesOn(place)) {
+                downMost = bound;
+            } else {
+                downMost = reach(place, bound, NO_SPAN);
+                downOffset = foundOffset;
+            }
+            return downMost;
+        }
+
+        private boolean goesOn(int place) {
+            return downOffset <= place && held[place] == held[place - downOffset];
         }
 
         /** How far back the nearest place is from which as many bytes stand, or 0. */
@@ -875,7 +921,7 @@ public final class FastBlocks {
 
         private void findCopy(Text text, int base, int place) {
             int limit = Math.min(form.limitAt(place, count), form.mostCopy());
-            int most = text.reach(base + place, limit, NO_SPAN);
+            int most = text.reachDownward(base + place, limit);
             int close = text.reach(base + place, Math.min(most, form.mostClose()), form.closeSpan());
             int least = FAR;
             lengthOfCopy[place] = 0;
@@ -1405,19 +1451,19 @@ public final class FastBlocks {
             if (sumBytes > 0 && input.number32(sumPlace) != Sums.sumOf(input, at, count)) {
                 return breaks(WRONG_BLOCK_SUM, sumPlace);
             }
-            boolean whole = number >= RAW_MARK ? openRaw(count, head) : openFrameSequences(sumPlace);
-            at += sumBytes;
-            return whole;
-        }
-
-        private boolean openFrameSequences(int blockEnd) {
-            int from = at;
-            end = blockEnd;
-            if (!openSequences(isFlag(FLAG_ALONE) ? to.size() : frameBegin)) {
-                return false;
+            if (number >= RAW_MARK) {
+                if (!openRaw(count, head)) {
+                    return false;
+                }
+            } else {
+                end = sumPlace;
+                if (!openSequences(isFlag(FLAG_ALONE) ? to.size() : frameBegin)) {
+                    return false;
+                }
+                end = input.size();
+                addPackedBlock(head + 4);
             }
-            end = input.size();
-            addPackedBlock(from);
+            at += sumBytes;
             return true;
         }
 
