@@ -581,7 +581,7 @@ public final class FastBlocks {
             downLimit = nothing ? 0 : limit;
             if (nothing) {
                 downMost = 0;
-            } else if (follows && downMost > 0 && bound > downMost && goesOn(place)) {
+            } else if (follows && downMost > 0 && goesOn(place)) {
                 downMost = bound;
             } else {
                 downMost = reach(place, bound, NO_SPAN);

@@ -10,6 +10,8 @@ public final class ModelTest {
         openDamaged();
         openNoise();
         longBlocks();
+        edgyBlocks();
+        fullBlocks();
         anyCalls();
         System.out.println(Pair.asked + " answers compared, " + Pair.wrong + " are not as due");
         if (Pair.wrong != 0) {
@@ -160,6 +162,58 @@ public final class ModelTest {
                 pair.back();
                 pair.open(form);
                 pair.askAll();
+            }
+        }
+    }
+
+    /** Literals and copies of just as many bytes as one more would make dearer, and some that overlap. */
+    private static void edgyBlocks() {
+        int[] edges = {4, 5, 11, 12, 14, 15, 16, 18, 19, 20, 59, 60, 61, 64, 65, 68, 255, 256, 257, 269, 270, 271, 273, 274,
+            275, 525, 529};
+        for (int seed = 0; seed < 90; seed++) {
+            Random random = new Random(110000 + seed);
+            int n = 300 + random.nextInt(700);
+            int[] bytes = new int[n];
+            int symbols = 8 + random.nextInt(60);
+            for (int i = 0; i < n;) {
+                int run = edges[random.nextInt(edges.length)] + random.nextInt(3) - 1;
+                int offset = i < 20 || random.nextInt(3) == 0 ? 0 : 1 + random.nextInt(i);
+                for (int k = 0; k < run && i < n; k++, i++) {
+                    bytes[i] = offset == 0 ? random.nextInt(symbols) : bytes[i - offset];
+                }
+            }
+            Pair pair = new Pair("edgy " + seed);
+            for (int form = 0; form <= 2; form += 2) {
+                pair.load(bytes);
+                pair.pack(form, 2);
+                pair.outBytes();
+            }
+        }
+    }
+
+    /** As many bytes as there is room for, with a dictionary. */
+    private static void fullBlocks() {
+        for (int seed = 0; seed < 6; seed++) {
+            Random random = new Random(130000 + seed);
+            Pair pair = new Pair("full " + seed);
+            int[] words = new int[1000];
+            for (int i = 0; i < 1000; i++) {
+                words[i] = random.nextInt(256);
+            }
+            int[] bytes = new int[4000];
+            for (int i = 0; i < 4000; i++) {
+                bytes[i] = i % 100 < 60 - seed * 10 ? words[(i * 7 / 100 + i) % 1000] : random.nextInt(256);
+            }
+            pair.load(words);
+            pair.dictionary();
+            pair.load(bytes);
+            pair.longest(3950);
+            pair.longest(3900);
+            pair.near(3900, 3);
+            for (int form = 0; form <= 2; form += 2) {
+                pair.load(bytes);
+                pair.pack(form, seed % 3 == 0 ? 2 : seed % 3);
+                pair.outBytes();
             }
         }
     }

@@ -342,8 +342,31 @@ public final class PromiseTest {
         packs(x, 2, 0, far, bytes(132, 16, 61 * 4, 254, 7, "qrstu", unlike(2042), 7 * 32 + 4 + 1, 255));
         far = bytes("qrstu", unlike(2043), "qrstu");
         packs(x, 2, 0, far, bytes(133, 16, 61 * 4, 255, 7, "qrstu", unlike(2043), 4 * 4 + 2, 0, 8));
-        // Level 2 has copies of 1 to 3, and of 64 at most.
+        for (int offset : new int[] {255, 256, 511, 512}) {
+            int[] between = unlike(offset - 5);
+            packs(x, 2, 0, bytes("qrstu", between, "qrstu"), bytes(128 + (offset + 5) % 128, (offset + 5) / 128,
+                    offset <= 256 ? bytes(240, offset - 1) : bytes(244, (offset - 1) % 256, (offset - 1) / 256),
+                    "qrstu", between, offset / 256 * 32 + 4 + 1, offset % 256));
+        }
+        packs(x, 2, 0, unlike(127), bytes(127, 240, 126, unlike(127)));
+        packs(x, 2, 0, unlike(128), bytes(128, 1, 240, 127, unlike(128)));
+        // Level 2 has copies of 1 to 3, and of 64 at most; of several rows that with the fewest literals first.
         packs(x, 2, 2, bytes("aaaa"), bytes(4, 0, "a", 2 * 4 + 2, 1, 0));
+        packs(x, 2, 2, times(66, 97), bytes(66, 4, "aa", 254, 1, 0));
+        packs(x, 2, 2, times(129, 97), bytes(129, 1, 0, 97, 254, 1, 0, 254, 1, 0));
+        closeCopies(x);
+    }
+
+    /** Two copies of 4 bytes take as much together with the literals around them, unless the first is far. */
+    private static void closeCopies(FastBlocks x) {
+        int[] between = unlike(2043 - 4);
+        int[] some = bytes("wxyz", between, "xyz!", "wxyz!", 254);
+        packs(x, 2, 2, some, bytes(128 + 2053 % 128, 2053 / 128, 244, 2046 % 256, 7, "wxyz", between, "xyz!",
+                7 * 32 + 1, 255, 4, "!", 254));
+        between = unlike(2044 - 4);
+        some = bytes("wxyz", between, "xyz!", "wxyz!", 254);
+        packs(x, 2, 2, some, bytes(128 + 2054 % 128, 2054 / 128, 244, 2048 % 256, 8, "wxyz", between, "xyz!w",
+                1, 5, 0, 254));
     }
 
     private static void packFrames() {
@@ -354,6 +377,10 @@ public final class PromiseTest {
         packs(x, 1, 2, times(13, 97), bytes(4, 34, 77, 24, flags, sumOf(flags)[1], 10, 0, 0, 0,
                 0x13, 97, 1, 0, 0x50, times(5, 97), 0, 0, 0, 0));
         packs(x, 1, 2, unlike(15), bytes(4, 34, 77, 24, flags, sumOf(flags)[1], 15, 0, 0, 128, unlike(15), 0, 0, 0, 0));
+        // A copy of 4 bytes saves nothing: as many bytes are not fewer.
+        packs(x, 0, 0, bytes("abcd1abcd23456789"), bytes(0x50, "abcd1", 5, 0, 0x80, "23456789"));
+        packs(x, 1, 0, bytes("abcd1abcd23456789"), bytes(4, 34, 77, 24, flags, sumOf(flags)[1], 17, 0, 0, 128,
+                "abcd1abcd23456789", 0, 0, 0, 0));
         x.set(0, 16);
         x.set(2, 1);
         x.set(3, 1);
@@ -383,6 +410,9 @@ public final class PromiseTest {
         FastBlocks x = new FastBlocks();
         int[] first = bytes(255, 6, 0, 0, "sNaPpY");
         packs(x, 3, 0, bytes(), first);
+        packs(x, 2, 0, bytes("abcdabcd"), bytes(8, 12, "abcd", 1, 4));
+        packs(x, 3, 0, bytes("abcdabcd"), bytes(first, 1, 12, 0, 0, crcOf(bytes("abcdabcd")), "abcdabcd"));
+        packs(x, 3, 0, bytes("abcdabcda"), bytes(first, 0, 12, 0, 0, crcOf(bytes("abcdabcda")), 9, 12, "abcd", 5, 4));
         x.set(0, 20);
         // 20 alike take 6 bytes, the 3 left take 5 and are raw.
         int[] some = bytes(times(20, 97), "xyz");
@@ -462,6 +492,15 @@ public final class PromiseTest {
         due("10 a piece: one too many", x.skip(1, 80), FULL);
         x.cut(3984);
         due("10 all room", x.skip(1, 80), 12000);
+        load(x, times(4000, 1));
+        x.pack(2, 0);
+        for (int i = 0; i < 2; i++) {
+            load(x, times(4000, 1));
+            x.skip(3, 200);
+        }
+        load(x, times(12000 - 4 - x.told(1), 1));
+        due("10 all room for a chunk", x.skip(3, 200), 12000);
+        due("10 no room for an empty one", x.skip(3, 200), FULL);
     }
 
     /** Opens some bytes: a rule at a place, or how many come. */
@@ -533,6 +572,8 @@ public final class PromiseTest {
         opens(y, 0, bytes("ayzayzayzbcdef"), 0x14, "a", 3, 0, 0x50, "bcdef");
         opens(y, 0, bytes("xyzxyzxabcdefg"), 3, 3, 0, 0x70, "abcdefg");
         breaks(y, 0, 2, 1, 3, 4, 0, 0x70, "abcdefg");
+        breaks(y, 0, 3, 3, 4, 3, 0, 0x40, "abcd");
+        breaks(y, 0, 3, 3, 2, 3, 0, 0x50, "abcde");
     }
 
     private static void openElements() {
@@ -602,6 +643,13 @@ public final class PromiseTest {
         opens(x, 1, bytes("abcabc"), plain, raw, end, 85, 42, 77, 24, 2, 0, 0, 0, 1, 2, head(64, 112), raw, end);
         opens(x, 1, bytes(), plain, 0, 0, 0, 128, end);
         due("13 a raw block of none", x.block(0, 3), 1);
+        int[] many = new int[4 * 997];
+        for (int i = 3; i < many.length; i += 4) {
+            many[i] = 128;
+        }
+        opens(x, 1, bytes(), plain, many, end);
+        due("13 all that an input can have", x.told(3), 997);
+        due("13 the last one", x.block(996, 0), 7 + 4 * 997);
         breaks(x, 1, 1, 3, 4, 34, 77);
         breaks(x, 1, 4, 0, 4, 34, 77, 25);
         breaks(x, 1, 4, 0, 79, 42, 77, 24, end);
@@ -855,6 +903,11 @@ public final class PromiseTest {
         due("14 at the first", x.longest(0), 1);
         due("15 at the first", x.near(0, 1), 4);
         due("14 nothing changes", x.told(0), 100);
+        load(x, unlike(1000));
+        x.dictionary();
+        load(x, bytes(times(3990, 255), unlike(10)));
+        due("14 the farthest", x.longest(3990), 10);
+        due("15 the farthest", x.near(3990, 10), 4990);
     }
 
     private static void sum() {
