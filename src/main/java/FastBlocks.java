@@ -576,15 +576,15 @@ public final class FastBlocks {
         int reachDownward(int place, int limit) {
             boolean nothing = place < 0 || limit < 1 || limit > count - place;
             boolean follows = place == downPlace - 1 && limit <= downLimit + 1;
-            int bound = follows ? Math.min(limit, downMost + 1) : limit;
+            int most = follows ? Math.min(limit, downMost + 1) : limit;
             downPlace = place;
             downLimit = nothing ? 0 : limit;
             if (nothing) {
                 downMost = 0;
             } else if (follows && downMost > 0 && goesOn(place)) {
-                downMost = bound;
+                downMost = most;
             } else {
-                downMost = reach(place, bound, NO_SPAN);
+                downMost = reach(place, most, NO_SPAN);
                 downOffset = foundOffset;
             }
             return downMost;

@@ -548,6 +548,7 @@ public final class PromiseTest {
         breaks(x, 0, 1, 4, 0x1F, "a", 1, 0);
         breaks(x, 0, 1, 5, 0x1F, "a", 1, 0, 255);
         breaks(x, 0, 1, 4, 0x10, "a", 1, 0);
+        breaks(x, 0, 1, 54, 0x1F, "a", 1, 0, times(50, 255));
         breaks(x, 0, 2, 2, 0x10, "a", 0, 0, 0x50, "bcdef");
         breaks(x, 0, 2, 2, 0x10, "a", 2, 0, 0x50, "bcdef");
         breaks(x, 0, 2, 2, 0x1F, "a", 2, 0);
