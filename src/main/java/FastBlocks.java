@@ -214,10 +214,10 @@ public final class FastBlocks {
     }
 
     public int block(int i, int what) {
-        if (i < 0 || what < 0 || what >= Blocks.FACTS) {
+        if (what < 0 || what >= Blocks.FACTS) {
             return BAD;
         }
-        return i >= blocks.size() ? NONE : blocks.fact(i, what);
+        return i < 0 || i >= blocks.size() ? NONE : blocks.fact(i, what);
     }
 
     public int longest(int p) {

@@ -191,10 +191,10 @@ final class PlainModel {
     }
 
     int block(int i, int what) {
-        if (i < 0 || what < 0 || what > 6) {
+        if (what < 0 || what > 6) {
             return BAD;
         }
-        return i >= blocks.size() ? NONE : blocks.get(i)[what];
+        return i < 0 || i >= blocks.size() ? NONE : blocks.get(i)[what];
     }
 
     int longest(int p) {

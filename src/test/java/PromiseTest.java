@@ -829,11 +829,16 @@ public final class PromiseTest {
         due("13 what -1", x.block(0, -1), BAD);
         due("13 what 7", x.block(0, 7), BAD);
         due("13 what 7 of none", x.block(9, 7), BAD);
-        due("13 below 0", x.block(-1, 0), BAD);
+        due("13 below 0", x.block(-1, 0), NONE);
+        due("13 far below 0", x.block(Integer.MIN_VALUE, 6), NONE);
+        due("13 far above", x.block(Integer.MAX_VALUE, 6), NONE);
+        due("13 below 0, what 7", x.block(-1, 7), BAD);
+        due("13 below 0, what -1", x.block(-1, -1), BAD);
         load(x, times(30, 97));
         x.pack(0, 0);
         dueBlock("sequences", x, 0, 0, 11, 30, 0, 1, 6, 2);
         due("13 but one", x.block(1, 0), NONE);
+        due("13 none below it", x.block(-1, 0), NONE);
         x.back();
         x.open(0);
         dueBlock("sequences opened", x, 0, 0, 11, 30, 0, 1, 6, 2);
