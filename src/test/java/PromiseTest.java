@@ -1,12 +1,11 @@
 import java.util.ArrayList;
 import java.util.List;
 
-/** For each promise: ordinary inputs, the edges that the document names, wrong inputs; the answers are said by hand. */
-public final class PromiseTest {
-    private static final int BAD = FastBlocks.BAD, NONE = FastBlocks.NONE, FULL = FastBlocks.FULL;
-    private static int wrong = 0;
-    private static int asked = 0;
-
+/**
+ * For each promise: ordinary inputs, the edges that the document names, wrong inputs; the answers are said by hand.
+ * No object is used for more calls than the document allows.
+ */
+public final class PromiseTest extends Due {
     public static void main(String[] args) {
         newObject();
         feed();
@@ -31,114 +30,40 @@ public final class PromiseTest {
         sum();
         bound();
         told();
-        System.out.println(asked + " answers asked, " + wrong + " are not as due");
-        if (wrong != 0) {
-            System.exit(1);
-        }
+        end();
     }
 
-    private static void due(String what, long got, long want) {
-        asked++;
-        if (got != want) {
-            wrong++;
-            System.out.println(what + " answered " + got + ", due is " + want);
-        }
+    private static void dueBytes(String what, Counted x, int... want) {
+        x.holds(what, want);
     }
 
-    private static void dueBytes(String what, FastBlocks x, int... want) {
-        due(what + ": how many", x.told(1), want.length);
-        for (int i = 0; i < want.length; i++) {
-            due(what + ": byte " + i, x.out(i), want[i]);
-        }
+    private static Counted load(Counted x, int[] some) {
+        return x.load(some);
     }
 
-    // ---- bytes
-
-    private static int[] bytes(Object... parts) {
-        List<Integer> all = new ArrayList<>();
-        for (Object part : parts) {
-            if (part instanceof int[]) {
-                for (int b : (int[]) part) {
-                    all.add(b);
-                }
-            } else if (part instanceof String) {
-                for (char c : ((String) part).toCharArray()) {
-                    all.add((int) c);
-                }
-            } else {
-                all.add((Integer) part);
-            }
-        }
-        return all.stream().mapToInt(i -> i).toArray();
+    private static Counted with(int[] some) {
+        return new Counted().load(some);
     }
 
-    private static int[] times(int n, int b) {
-        int[] some = new int[n];
-        java.util.Arrays.fill(some, b);
-        return some;
+    private static Counted withWords(int[] words) {
+        return new Counted().loadWords(words);
     }
 
-    /** So many bytes of which no four stand twice: a count, a byte that is never 255, and 255. */
-    private static int[] unlike(int n) {
-        int[] some = new int[n];
-        for (int i = 0; i < n; i++) {
-            int count = i / 4;
-            some[i] = new int[] {count % 256, count / 256, count * 7 % 251, 255}[i % 4];
-        }
-        return some;
+    /** An object whose out has something that stays, if a RULE is broken. */
+    private static Counted something() {
+        return something("");
     }
 
-    private static int[] number(long v, int n) {
-        int[] some = new int[n];
-        for (int i = 0; i < n; i++) {
-            some[i] = (int) (v >> (8 * i)) & 255;
-        }
-        return some;
-    }
-
-    private static List<Integer> list(int[] some) {
-        List<Integer> all = new ArrayList<>();
-        for (int b : some) {
-            all.add(b);
-        }
-        return all;
-    }
-
-    private static int[] sumOf(int[] some) {
-        return number(PlainModel.sumOf(list(some)), 4);
-    }
-
-    private static int[] crcOf(int[] some) {
-        return number(PlainModel.masked(list(some)), 4);
-    }
-
-    private static FastBlocks load(FastBlocks x, int[] some) {
-        x.cut(0);
-        for (int from = 0; from < some.length; from += 20) {
-            int[] v = new int[5];
-            for (int i = 0; i < 20; i++) {
-                v[i / 4] = v[i / 4] << 8 | (from + i < some.length ? some[from + i] : 0);
-            }
-            x.feed(v[0], v[1], v[2], v[3], v[4]);
-        }
-        x.cut(some.length);
-        return x;
-    }
-
-    private static FastBlocks with(int[] some) {
-        return load(new FastBlocks(), some);
-    }
-
-    private static FastBlocks withWords(int[] words) {
-        FastBlocks x = with(words);
-        x.dictionary();
+    private static Counted something(String words) {
+        Counted x = withWords(bytes(words)).load(bytes("something"));
+        x.pack(0, 0);
         return x;
     }
 
     // ---- promises
 
     private static void newObject() {
-        FastBlocks x = new FastBlocks();
+        Counted x = new Counted();
         for (int what = 0; what <= 3; what++) {
             due("1 told(" + what + ")", x.told(what), 0);
         }
@@ -152,11 +77,11 @@ public final class PromiseTest {
         due("1 out", x.out(0), BAD);
         due("1 back", x.back(), 0);
         due("1 dictionary", x.dictionary(), 0);
-        due("1 another object", new FastBlocks().set(0, 16), 4000);
+        due("1 another object", new Counted().set(0, 16), 4000);
     }
 
     private static void feed() {
-        FastBlocks x = new FastBlocks();
+        Counted x = new Counted();
         due("2 feed", x.feed(0x01020304, 0xF0F1F2F3, 0, -1, 0x7F80FF00), 20);
         x.cut(20);
         x.set(0, 20);
@@ -177,7 +102,7 @@ public final class PromiseTest {
     }
 
     private static void cut() {
-        FastBlocks x = with(bytes("abcdefghij"));
+        Counted x = with(bytes("abcdefghij"));
         due("3 too many", x.cut(11), BAD);
         due("3 below 0", x.cut(-1), BAD);
         due("3 unchanged", x.told(0), 10);
@@ -191,7 +116,7 @@ public final class PromiseTest {
     }
 
     private static void out() {
-        FastBlocks x = with(bytes(200, 255, 0));
+        Counted x = with(bytes(200, 255, 0));
         x.pack(0, 0);
         dueBytes("4", x, 0x30, 200, 255, 0);
         due("4 below 0", x.out(-1), BAD);
@@ -200,7 +125,7 @@ public final class PromiseTest {
     }
 
     private static void back() {
-        FastBlocks x = with(bytes("abc"));
+        Counted x = with(bytes("abc"));
         x.pack(0, 0);
         load(x, bytes("is gone then"));
         due("5 back", x.back(), 4);
@@ -220,7 +145,7 @@ public final class PromiseTest {
     }
 
     private static void dictionary() {
-        FastBlocks x = with(bytes("abcdefgh"));
+        Counted x = with(bytes("abcdefgh"));
         due("6 dictionary", x.dictionary(), 8);
         due("6 the input is empty", x.told(0), 0);
         due("6 told", x.told(2), 8);
@@ -239,7 +164,7 @@ public final class PromiseTest {
     }
 
     private static void set() {
-        FastBlocks x = new FastBlocks();
+        Counted x = new Counted();
         due("7 BLOCK 16", x.set(0, 16), 4000);
         due("7 BLOCK 15", x.set(0, 15), BAD);
         due("7 BLOCK 4,001", x.set(0, 4001), BAD);
@@ -258,7 +183,7 @@ public final class PromiseTest {
     }
 
     private static void packSequences() {
-        FastBlocks x = new FastBlocks();
+        Counted x = new Counted();
         due("8 nothing", x.pack(0, 2), 1);
         dueBytes("8 nothing", x, 0);
         due("8 form -1", x.pack(-1, 0), BAD);
@@ -267,26 +192,30 @@ public final class PromiseTest {
         due("8 level 3", x.pack(0, 3), BAD);
         for (int level = 0; level <= 2; level++) {
             // 12 alike have no place before; 13 have a copy of 7 at place 1 (place 1 is n - 12).
-            packs(x, 0, level, times(12, 97), bytes(0xC0, times(12, 97)));
-            packs(x, 0, level, times(13, 97), bytes(0x13, 97, 1, 0, 0x50, times(5, 97)));
-            packs(x, 0, level, bytes("abc"), bytes(0x30, "abc"));
-            packs(x, 0, level, unlike(14), bytes(0xE0, unlike(14)));
-            packs(x, 0, level, unlike(15), bytes(0xF0, 0, unlike(15)));
-            packs(x, 0, level, unlike(269), bytes(0xF0, 254, unlike(269)));
-            packs(x, 0, level, unlike(270), bytes(0xF0, 255, 0, unlike(270)));
-            packs(x, 0, level, times(24, 97), bytes(0x1E, 97, 1, 0, 0x50, times(5, 97)));
-            packs(x, 0, level, times(25, 97), bytes(0x1F, 97, 1, 0, 0, 0x50, times(5, 97)));
-            packs(x, 0, level, times(280, 97), bytes(0x1F, 97, 1, 0, 255, 0, 0x50, times(5, 97)));
+            packs(0, level, times(12, 97), bytes(0xC0, times(12, 97)));
+            packs(0, level, times(13, 97), bytes(0x13, 97, 1, 0, 0x50, times(5, 97)));
+            packs(0, level, bytes("abc"), bytes(0x30, "abc"));
+            packs(0, level, unlike(14), bytes(0xE0, unlike(14)));
+            packs(0, level, unlike(15), bytes(0xF0, 0, unlike(15)));
+            packs(0, level, unlike(269), bytes(0xF0, 254, unlike(269)));
+            packs(0, level, unlike(270), bytes(0xF0, 255, 0, unlike(270)));
+            packs(0, level, times(24, 97), bytes(0x1E, 97, 1, 0, 0x50, times(5, 97)));
+            packs(0, level, times(25, 97), bytes(0x1F, 97, 1, 0, 0, 0x50, times(5, 97)));
+            packs(0, level, times(280, 97), bytes(0x1F, 97, 1, 0, 255, 0, 0x50, times(5, 97)));
         }
         // By a dictionary a block of 12 has a copy, from its first place on; one of 11 has none.
-        FastBlocks y = withWords(bytes("abcdefgh"));
+        Counted y = withWords(bytes("abcdefgh"));
         packs(y, 0, 0, bytes("abcdefghijkl"), bytes(0x03, 8, 0, 0x50, "hijkl"));
         packs(y, 0, 0, bytes("abcdefghijk"), bytes(0xB0, "abcdefghijk"));
         packs(y, 0, 2, bytes("ghabcdefghijklmn"), bytes(0x24, "gh", 10, 0, 0x60, "ijklmn"));
-        levels(x);
+        levels();
     }
 
-    private static void packs(FastBlocks x, int form, int level, int[] some, int[] want) {
+    private static void packs(int form, int level, int[] some, int[] want) {
+        packs(new Counted(), form, level, some, want);
+    }
+
+    private static void packs(Counted x, int form, int level, int[] some, int[] want) {
         load(x, some);
         String what = "8 form " + form + ", level " + level + ", " + some.length + " bytes";
         due(what, x.pack(form, level), want.length);
@@ -297,90 +226,90 @@ public final class PromiseTest {
         dueBytes(what + ": open", x, some);
     }
 
-    private static void levels(FastBlocks x) {
+    private static void levels() {
         // At the second "abcd" level 0 takes abcd, level 1 waits for bcdefghi.
         int[] some = bytes("abcdx", "bcdefghi", "abcdefghi", "zyxwv");
-        packs(x, 0, 0, some, bytes(0xD0, "abcdxbcdefghi", 13, 0, 0xA0, "efghizyxwv"));
-        packs(x, 0, 1, some, bytes(0xE4, "abcdxbcdefghia", 9, 0, 0x50, "zyxwv"));
-        packs(x, 0, 2, some, bytes(0xE4, "abcdxbcdefghia", 9, 0, 0x50, "zyxwv"));
+        packs(0, 0, some, bytes(0xD0, "abcdxbcdefghi", 13, 0, 0xA0, "efghizyxwv"));
+        packs(0, 1, some, bytes(0xE4, "abcdxbcdefghia", 9, 0, 0x50, "zyxwv"));
+        packs(0, 2, some, bytes(0xE4, "abcdxbcdefghia", 9, 0, 0x50, "zyxwv"));
         // One as long as that here is no reason to wait.
         int[] alike = bytes("abcd", 1, "bcde", 2, "abcde", 3, 4, 5, 6, 7, 8, 9, 10);
-        packs(x, 0, 1, alike, bytes(0xA0, "abcd", 1, "bcde", 2, 10, 0, 0x90, "e", 3, 4, 5, 6, 7, 8, 9, 10));
-        packs(x, 0, 0, alike, bytes(0xA0, "abcd", 1, "bcde", 2, 10, 0, 0x90, "e", 3, 4, 5, 6, 7, 8, 9, 10));
+        packs(0, 1, alike, bytes(0xA0, "abcd", 1, "bcde", 2, 10, 0, 0x90, "e", 3, 4, 5, 6, 7, 8, 9, 10));
+        packs(0, 0, alike, bytes(0xA0, "abcd", 1, "bcde", 2, 10, 0, 0x90, "e", 3, 4, 5, 6, 7, 8, 9, 10));
     }
 
     private static void packElements() {
-        FastBlocks x = new FastBlocks();
+        Counted x = new Counted();
         for (int level = 0; level <= 2; level++) {
-            packs(x, 2, level, bytes(), bytes(0));
-            packs(x, 2, level, bytes("a"), bytes(1, 0, "a"));
-            packs(x, 2, level, unlike(60), bytes(60, 59 * 4, unlike(60)));
-            packs(x, 2, level, times(65, 97), bytes(65, 0, 97, 63 * 4 + 2, 1, 0));
-            packs(x, 2, level, times(12, 97), bytes(12, 0, 97, 7 * 4 + 1, 1));
-            packs(x, 2, level, times(13, 97), bytes(13, 0, 97, 11 * 4 + 2, 1, 0));
+            packs(2, level, bytes(), bytes(0));
+            packs(2, level, bytes("a"), bytes(1, 0, "a"));
+            packs(2, level, unlike(60), bytes(60, 59 * 4, unlike(60)));
+            packs(2, level, times(65, 97), bytes(65, 0, 97, 63 * 4 + 2, 1, 0));
+            packs(2, level, times(12, 97), bytes(12, 0, 97, 7 * 4 + 1, 1));
+            packs(2, level, times(13, 97), bytes(13, 0, 97, 11 * 4 + 2, 1, 0));
         }
         for (int level = 0; level <= 1; level++) {
-            packs(x, 2, level, bytes("aaaa"), bytes(4, 12, "aaaa"));
-            packs(x, 2, level, unlike(61), bytes(61, 60 * 4, 60, unlike(61)));
-            packs(x, 2, level, unlike(256), bytes(128, 2, 60 * 4, 255, unlike(256)));
-            packs(x, 2, level, unlike(257), bytes(129, 2, 61 * 4, 0, 1, unlike(257)));
+            packs(2, level, bytes("aaaa"), bytes(4, 12, "aaaa"));
+            packs(2, level, unlike(61), bytes(61, 60 * 4, 60, unlike(61)));
+            packs(2, level, unlike(256), bytes(128, 2, 60 * 4, 255, unlike(256)));
+            packs(2, level, unlike(257), bytes(129, 2, 61 * 4, 0, 1, unlike(257)));
             // 67 left: 60 and 7; 68: 64 and 4; 132: 64, 64, 4; 131: 64, 60, 7.
-            packs(x, 2, level, times(68, 97), bytes(68, 0, 97, 59 * 4 + 2, 1, 0, 3 * 4 + 1, 1));
-            packs(x, 2, level, times(69, 97), bytes(69, 0, 97, 63 * 4 + 2, 1, 0, 1, 1));
-            packs(x, 2, level, times(132, 97), bytes(132, 1, 0, 97, 254, 1, 0, 59 * 4 + 2, 1, 0, 3 * 4 + 1, 1));
-            packs(x, 2, level, times(133, 97), bytes(133, 1, 0, 97, 254, 1, 0, 254, 1, 0, 1, 1));
+            packs(2, level, times(68, 97), bytes(68, 0, 97, 59 * 4 + 2, 1, 0, 3 * 4 + 1, 1));
+            packs(2, level, times(69, 97), bytes(69, 0, 97, 63 * 4 + 2, 1, 0, 1, 1));
+            packs(2, level, times(132, 97), bytes(132, 1, 0, 97, 254, 1, 0, 59 * 4 + 2, 1, 0, 3 * 4 + 1, 1));
+            packs(2, level, times(133, 97), bytes(133, 1, 0, 97, 254, 1, 0, 254, 1, 0, 1, 1));
         }
         // Each piece has its own offset: the last 40 bytes stand nearer than all 104.
         int[] head = unlike(64);
         int[] tail = times(40, 9);
         int[] some = bytes(head, tail, 8, tail, 7, head, tail);
-        packs(x, 2, 0, some, bytes(250, 1, 61 * 4 - 4, 64, head, 9, 38 * 4 + 2, 1, 0, 0, 8, 39 * 4 + 2, 41, 0,
+        packs(2, 0, some, bytes(250, 1, 61 * 4 - 4, 64, head, 9, 38 * 4 + 2, 1, 0, 0, 8, 39 * 4 + 2, 41, 0,
                 0, 7, 254, 146, 0, 39 * 4 + 2, 105, 0));
         // The dictionary is not leant on; an offset of 2,048 takes three bytes.
         packs(withWords(bytes("abcdefgh")), 2, 0, bytes("abcdefgh"), bytes(8, 28, "abcdefgh"));
         int[] far = bytes("qrstu", unlike(2042), "qrstu");
-        packs(x, 2, 0, far, bytes(132, 16, 61 * 4, 254, 7, "qrstu", unlike(2042), 7 * 32 + 4 + 1, 255));
+        packs(2, 0, far, bytes(132, 16, 61 * 4, 254, 7, "qrstu", unlike(2042), 7 * 32 + 4 + 1, 255));
         far = bytes("qrstu", unlike(2043), "qrstu");
-        packs(x, 2, 0, far, bytes(133, 16, 61 * 4, 255, 7, "qrstu", unlike(2043), 4 * 4 + 2, 0, 8));
+        packs(2, 0, far, bytes(133, 16, 61 * 4, 255, 7, "qrstu", unlike(2043), 4 * 4 + 2, 0, 8));
         for (int offset : new int[] {255, 256, 511, 512}) {
             int[] between = unlike(offset - 5);
-            packs(x, 2, 0, bytes("qrstu", between, "qrstu"), bytes(128 + (offset + 5) % 128, (offset + 5) / 128,
+            packs(2, 0, bytes("qrstu", between, "qrstu"), bytes(128 + (offset + 5) % 128, (offset + 5) / 128,
                     offset <= 256 ? bytes(240, offset - 1) : bytes(244, (offset - 1) % 256, (offset - 1) / 256),
                     "qrstu", between, offset / 256 * 32 + 4 + 1, offset % 256));
         }
-        packs(x, 2, 0, unlike(127), bytes(127, 240, 126, unlike(127)));
-        packs(x, 2, 0, unlike(128), bytes(128, 1, 240, 127, unlike(128)));
+        packs(2, 0, unlike(127), bytes(127, 240, 126, unlike(127)));
+        packs(2, 0, unlike(128), bytes(128, 1, 240, 127, unlike(128)));
         // Level 2 has copies of 1 to 3, and of 64 at most; of several rows that with the fewest literals first.
-        packs(x, 2, 2, bytes("aaaa"), bytes(4, 0, "a", 2 * 4 + 2, 1, 0));
-        packs(x, 2, 2, times(66, 97), bytes(66, 4, "aa", 254, 1, 0));
-        packs(x, 2, 2, times(129, 97), bytes(129, 1, 0, 97, 254, 1, 0, 254, 1, 0));
-        closeCopies(x);
+        packs(2, 2, bytes("aaaa"), bytes(4, 0, "a", 2 * 4 + 2, 1, 0));
+        packs(2, 2, times(66, 97), bytes(66, 4, "aa", 254, 1, 0));
+        packs(2, 2, times(129, 97), bytes(129, 1, 0, 97, 254, 1, 0, 254, 1, 0));
+        closeCopies();
     }
 
     /** Two copies of 4 bytes take as much together with the literals around them, unless the first is far. */
-    private static void closeCopies(FastBlocks x) {
+    private static void closeCopies() {
         int[] between = unlike(2043 - 4);
         int[] some = bytes("wxyz", between, "xyz!", "wxyz!", 254);
-        packs(x, 2, 2, some, bytes(128 + 2053 % 128, 2053 / 128, 244, 2046 % 256, 7, "wxyz", between, "xyz!",
+        packs(2, 2, some, bytes(128 + 2053 % 128, 2053 / 128, 244, 2046 % 256, 7, "wxyz", between, "xyz!",
                 7 * 32 + 1, 255, 4, "!", 254));
         between = unlike(2044 - 4);
         some = bytes("wxyz", between, "xyz!", "wxyz!", 254);
-        packs(x, 2, 2, some, bytes(128 + 2054 % 128, 2054 / 128, 244, 2048 % 256, 8, "wxyz", between, "xyz!w",
+        packs(2, 2, some, bytes(128 + 2054 % 128, 2054 / 128, 244, 2048 % 256, 8, "wxyz", between, "xyz!w",
                 1, 5, 0, 254));
     }
 
     private static void packFrames() {
-        FastBlocks x = new FastBlocks();
         int[] flags = bytes(96, 64);
-        packs(x, 1, 0, bytes(), bytes(4, 34, 77, 24, flags, sumOf(flags)[1], 0, 0, 0, 0));
+        packs(1, 0, bytes(), bytes(4, 34, 77, 24, flags, sumOf(flags)[1], 0, 0, 0, 0));
         // One that is not shorter is raw: 13 alike take 10 bytes, 15 unlike ones 17.
-        packs(x, 1, 2, times(13, 97), bytes(4, 34, 77, 24, flags, sumOf(flags)[1], 10, 0, 0, 0,
+        packs(1, 2, times(13, 97), bytes(4, 34, 77, 24, flags, sumOf(flags)[1], 10, 0, 0, 0,
                 0x13, 97, 1, 0, 0x50, times(5, 97), 0, 0, 0, 0));
-        packs(x, 1, 2, unlike(15), bytes(4, 34, 77, 24, flags, sumOf(flags)[1], 15, 0, 0, 128, unlike(15), 0, 0, 0, 0));
+        packs(1, 2, unlike(15), bytes(4, 34, 77, 24, flags, sumOf(flags)[1], 15, 0, 0, 128, unlike(15), 0, 0, 0, 0));
         // A copy of 4 bytes saves nothing: as many bytes are not fewer.
-        packs(x, 0, 0, bytes("abcd1abcd23456789"), bytes(0x50, "abcd1", 5, 0, 0x80, "23456789"));
-        packs(x, 1, 0, bytes("abcd1abcd23456789"), bytes(4, 34, 77, 24, flags, sumOf(flags)[1], 17, 0, 0, 128,
+        packs(0, 0, bytes("abcd1abcd23456789"), bytes(0x50, "abcd1", 5, 0, 0x80, "23456789"));
+        packs(1, 0, bytes("abcd1abcd23456789"), bytes(4, 34, 77, 24, flags, sumOf(flags)[1], 17, 0, 0, 128,
                 "abcd1abcd23456789", 0, 0, 0, 0));
+        Counted x = new Counted();
         x.set(0, 16);
         x.set(2, 1);
         x.set(3, 1);
@@ -392,11 +321,9 @@ public final class PromiseTest {
         packs(x, 1, 1, some, bytes(4, 34, 77, 24, told, sumOf(told)[1], 10, 0, 0, 0, block, sumOf(block),
                 10, 0, 0, 0, block, sumOf(block), 2, 0, 0, 128, "zz", sumOf(bytes("zz")), 0, 0, 0, 0, sumOf(some)));
         // If they lean on each other, the second block begins with a copy; the dictionary is before the first.
+        x = new Counted();
+        x.set(0, 16);
         x.set(1, 1);
-        x.set(2, 0);
-        x.set(3, 0);
-        x.set(4, 0);
-        x.set(5, 0);
         flags = bytes(64, 64);
         packs(x, 1, 1, some, bytes(4, 34, 77, 24, flags, sumOf(flags)[1], 10, 0, 0, 0, block,
                 9, 0, 0, 0, 7, 1, 0, 0x50, times(5, 97), 2, 0, 0, 128, "zz", 0, 0, 0, 0));
@@ -407,7 +334,7 @@ public final class PromiseTest {
     }
 
     private static void packChunks() {
-        FastBlocks x = new FastBlocks();
+        Counted x = new Counted();
         int[] first = bytes(255, 6, 0, 0, "sNaPpY");
         packs(x, 3, 0, bytes(), first);
         packs(x, 2, 0, bytes("abcdabcd"), bytes(8, 12, "abcd", 1, 4));
@@ -421,7 +348,7 @@ public final class PromiseTest {
     }
 
     private static void more() {
-        FastBlocks x = with(bytes("abc"));
+        Counted x = with(bytes("abc"));
         due("9 form 0", x.more(0, 0), BAD);
         due("9 form 2", x.more(2, 0), BAD);
         due("9 form -1", x.more(-1, 0), BAD);
@@ -438,16 +365,14 @@ public final class PromiseTest {
         due("9 where in the out", x.block(0, 0), 39);
         x.back();
         due("9 open", x.open(3), 5);
-        // 4,000 unlike bytes take 4,015 as a frame: two fit, a third does not; what is left is 3,970.
+        // 4,000 unlike bytes take 4,015 as a frame, and there are 3,970 left.
+        x = with(bytes(0x1F, 97, 1, 0, times(31, 255), 100, 0x50, "bcdef"));
+        due("9 8,030", x.open(0), 8030);
         load(x, unlike(4000));
-        due("9 4,000", x.pack(1, 0), 4015);
-        load(x, unlike(4000));
-        due("9 8,000", x.more(1, 0), 8030);
-        load(x, unlike(4000));
-        due("9 12,000", x.more(1, 0), FULL);
+        due("9 12,045", x.more(1, 0), FULL);
         due("9 the input stays", x.told(0), 4000);
         due("9 the out stays", x.told(1), 8030);
-        due("9 the blocks stay", x.block(0, 0), 4015 + 11);
+        due("9 the blocks stay", x.block(0, 1), 42);
         x.cut(3956);
         due("9 one too many", x.more(1, 0), FULL);
         x.cut(3955);
@@ -456,7 +381,7 @@ public final class PromiseTest {
     }
 
     private static void skip() {
-        FastBlocks x = with(bytes("abc"));
+        Counted x = with(bytes("abc"));
         for (int kind : new int[] {79, 96, 128, -1}) {
             due("10 form 1, " + kind, x.skip(1, kind), BAD);
         }
@@ -480,10 +405,8 @@ public final class PromiseTest {
         dueBytes("10", x, bytes(255, 6, 0, 0, "sNaPpY", 128, 3, 0, 0, "abc", 254, 0, 0, 0));
         x.back();
         due("10 nothing comes", x.open(3), 0);
-        load(x, times(4000, 1));
-        x.skip(3, 200);
-        load(x, times(4000, 1));
-        x.skip(3, 200);
+        x = with(bytes(0x1F, 97, 1, 0, times(31, 255), 78, 0x50, "bcdef"));
+        due("10 8,008", x.open(0), 8008);
         load(x, times(3989, 1));
         due("10 one too many", x.skip(3, 200), FULL);
         due("10 unchanged", x.told(0), 3989);
@@ -492,19 +415,16 @@ public final class PromiseTest {
         due("10 a piece: one too many", x.skip(1, 80), FULL);
         x.cut(3984);
         due("10 all room", x.skip(1, 80), 12000);
-        load(x, times(4000, 1));
-        x.pack(2, 0);
-        for (int i = 0; i < 2; i++) {
-            load(x, times(4000, 1));
-            x.skip(3, 200);
-        }
-        load(x, times(12000 - 4 - x.told(1), 1));
-        due("10 all room for a chunk", x.skip(3, 200), 12000);
-        due("10 no room for an empty one", x.skip(3, 200), FULL);
+        due("10 no room for an empty one", x.skip(1, 80), FULL);
+        due("10 no room for an empty chunk", x.skip(3, 200), FULL);
     }
 
     /** Opens some bytes: a rule at a place, or how many come. */
-    private static void breaks(FastBlocks x, int form, int rule, int place, Object... parts) {
+    private static void breaks(int form, int rule, int place, Object... parts) {
+        breaks(something(), form, rule, place, parts);
+    }
+
+    private static void breaks(Counted x, int form, int rule, int place, Object... parts) {
         int[] some = bytes(parts);
         int had = x.told(1);
         int blocks = x.told(3);
@@ -518,7 +438,11 @@ public final class PromiseTest {
         due("11 the input is empty", x.told(0), 0);
     }
 
-    private static void opens(FastBlocks x, int form, int[] want, Object... parts) {
+    private static void opens(int form, int[] want, Object... parts) {
+        opens(something(), form, want, parts);
+    }
+
+    private static void opens(Counted x, int form, int[] want, Object... parts) {
         int[] some = bytes(parts);
         load(x, some);
         String what = "11 form " + form + " " + list(some.length > 60 ? java.util.Arrays.copyOf(some, 60) : some);
@@ -530,46 +454,45 @@ public final class PromiseTest {
     }
 
     private static void openSequences() {
-        FastBlocks x = with(bytes("something"));
-        x.pack(0, 0);
+        Counted x = something();
         due("11 form -1", x.open(-1), BAD);
         due("11 form 4", x.open(4), BAD);
-        opens(x, 0, bytes(), 0);
-        opens(x, 0, bytes("abc"), 0x30, "abc");
-        opens(x, 0, unlike(15), 0xF0, 0, unlike(15));
-        opens(x, 0, times(25, 97), 0x1F, 97, 1, 0, 0, 0x50, "aaaaa");
-        opens(x, 0, bytes("abababababcdefg"), 0x24, "ab", 2, 0, 0x50, "cdefg");
-        breaks(x, 0, 1, 0);
-        breaks(x, 0, 1, 1, 0x10);
-        breaks(x, 0, 1, 3, 0x30, "ab");
-        breaks(x, 0, 1, 1, 0xF0);
-        breaks(x, 0, 1, 3, 0xF0, 255, 255);
-        breaks(x, 0, 1, 3, 0x10, "a", 1);
-        breaks(x, 0, 1, 4, 0x1F, "a", 1, 0);
-        breaks(x, 0, 1, 5, 0x1F, "a", 1, 0, 255);
-        breaks(x, 0, 1, 4, 0x10, "a", 1, 0);
-        breaks(x, 0, 1, 54, 0x1F, "a", 1, 0, times(50, 255));
-        breaks(x, 0, 2, 2, 0x10, "a", 0, 0, 0x50, "bcdef");
-        breaks(x, 0, 2, 2, 0x10, "a", 2, 0, 0x50, "bcdef");
-        breaks(x, 0, 2, 2, 0x1F, "a", 2, 0);
-        breaks(x, 0, 2, 1, 0, 1, 0, 0x50, "bcdef");
-        breaks(x, 0, 3, 0, 0x11, "a");
-        breaks(x, 0, 3, 0, 0x01);
+        opens(0, bytes(), 0);
+        opens(0, bytes("abc"), 0x30, "abc");
+        opens(0, unlike(15), 0xF0, 0, unlike(15));
+        opens(0, times(25, 97), 0x1F, 97, 1, 0, 0, 0x50, "aaaaa");
+        opens(0, bytes("abababababcdefg"), 0x24, "ab", 2, 0, 0x50, "cdefg");
+        breaks(0, 1, 0);
+        breaks(0, 1, 1, 0x10);
+        breaks(0, 1, 3, 0x30, "ab");
+        breaks(0, 1, 1, 0xF0);
+        breaks(0, 1, 3, 0xF0, 255, 255);
+        breaks(0, 1, 3, 0x10, "a", 1);
+        breaks(0, 1, 4, 0x1F, "a", 1, 0);
+        breaks(0, 1, 5, 0x1F, "a", 1, 0, 255);
+        breaks(0, 1, 4, 0x10, "a", 1, 0);
+        breaks(0, 1, 54, 0x1F, "a", 1, 0, times(50, 255));
+        breaks(0, 2, 2, 0x10, "a", 0, 0, 0x50, "bcdef");
+        breaks(0, 2, 2, 0x10, "a", 2, 0, 0x50, "bcdef");
+        breaks(0, 2, 2, 0x1F, "a", 2, 0);
+        breaks(0, 2, 1, 0, 1, 0, 0x50, "bcdef");
+        breaks(0, 3, 0, 0x11, "a");
+        breaks(0, 3, 0, 0x01);
         // 4 literals at the end; a copy 11 and 12 bytes before it; a copy at the very end lacks the last sequence.
-        breaks(x, 0, 3, 5, 0x1F, "a", 1, 0, 0, 0x40, "bcde");
-        breaks(x, 0, 3, 4, 0x12, "a", 1, 0, 0x50, "bcdef");
-        breaks(x, 0, 3, 4, 0x13, "a", 1, 0, 0x51, "bcdef");
-        opens(x, 0, bytes("aaaaaaaabcdef"), 0x13, "a", 1, 0, 0x50, "bcdef");
-        breaks(x, 0, 3, 4, 0x13, "a", 1, 0, 0);
+        breaks(0, 3, 5, 0x1F, "a", 1, 0, 0, 0x40, "bcde");
+        breaks(0, 3, 4, 0x12, "a", 1, 0, 0x50, "bcdef");
+        breaks(0, 3, 4, 0x13, "a", 1, 0, 0x51, "bcdef");
+        opens(0, bytes("aaaaaaaabcdef"), 0x13, "a", 1, 0, 0x50, "bcdef");
+        breaks(0, 3, 4, 0x13, "a", 1, 0, 0);
         // 12,000 come, or one more: at the last token, and at the first.
-        opens(x, 0, bytes(times(11995, 97), "bcdef"), 0x1F, "a", 1, 0, times(46, 255), 245, 0x50, "bcdef");
-        breaks(x, 0, 12, 51, 0x1F, "a", 1, 0, times(46, 255), 246, 0x50, "bcdef");
-        breaks(x, 0, 12, 51, 0x1F, "a", 1, 0, times(46, 255), 250, 0x11, "b");
-        breaks(x, 0, 1, 52, 0x1F, "a", 1, 0, times(46, 255), 250, 0x51);
-        breaks(x, 0, 12, 0, 0x1F, "a", 1, 0, times(46, 255), 251, 0x50, "bcdef");
-        breaks(x, 0, 3, 51, 0x1F, "a", 1, 0, times(46, 255), 250, 0);
+        opens(0, bytes(times(11995, 97), "bcdef"), 0x1F, "a", 1, 0, times(46, 255), 245, 0x50, "bcdef");
+        breaks(0, 12, 51, 0x1F, "a", 1, 0, times(46, 255), 246, 0x50, "bcdef");
+        breaks(0, 12, 51, 0x1F, "a", 1, 0, times(46, 255), 250, 0x11, "b");
+        breaks(0, 1, 52, 0x1F, "a", 1, 0, times(46, 255), 250, 0x51);
+        breaks(0, 12, 0, 0x1F, "a", 1, 0, times(46, 255), 251, 0x50, "bcdef");
+        breaks(0, 3, 51, 0x1F, "a", 1, 0, times(46, 255), 250, 0);
         // By a dictionary a copy may begin before the first byte, and go on into the block.
-        FastBlocks y = withWords(bytes("xyz"));
+        Counted y = withWords(bytes("xyz"));
         opens(y, 0, bytes("ayzayzayzbcdef"), 0x14, "a", 3, 0, 0x50, "bcdef");
         opens(y, 0, bytes("xyzxyzxabcdefg"), 3, 3, 0, 0x70, "abcdefg");
         breaks(y, 0, 2, 1, 3, 4, 0, 0x70, "abcdefg");
@@ -578,70 +501,61 @@ public final class PromiseTest {
     }
 
     private static void openElements() {
-        FastBlocks x = withWords(bytes("not leant on"));
-        load(x, bytes("something"));
-        x.pack(0, 0);
-        opens(x, 2, bytes(), 0);
-        opens(x, 2, bytes(), 128, 128, 128, 128, 0);
-        opens(x, 2, bytes("ab"), 2, 4, "ab");
-        opens(x, 2, bytes("ab"), 2, 240, 1, "ab");
-        opens(x, 2, bytes("ab"), 2, 244, 1, 0, "ab");
-        opens(x, 2, bytes("ab"), 2, 248, 1, 0, 0, "ab");
-        opens(x, 2, bytes("ab"), 2, 252, 1, 0, 0, 0, "ab");
-        opens(x, 2, bytes("abcabca"), 7, 8, "abc", 1, 3);
-        opens(x, 2, bytes("abcb"), 4, 8, "abc", 2, 2, 0);
-        opens(x, 2, bytes("abcbcbc"), 7, 8, "abc", 3 * 4 + 3, 2, 0, 0, 0);
-        opens(x, 2, bytes(unlike(300), times(11, 255)), 183, 2, 244, 43, 1, unlike(300), 7 * 4 + 1, 1);
-        opens(x, 2, bytes(unlike(300), 0, 0), 174, 2, 244, 43, 1, unlike(300), 4 + 2, 44, 1);
-        opens(x, 2, bytes(unlike(300), 0, 0, 0, 255), 176, 2, 244, 43, 1, unlike(300), 32 + 1, 44);
-        breaks(x, 2, 1, 0);
-        breaks(x, 2, 1, 1, 128);
-        breaks(x, 2, 1, 4, 255, 255, 255, 255);
-        breaks(x, 2, 13, 0, 128, 128, 128, 128, 128, 0);
-        breaks(x, 2, 13, 0, 128, 128, 128, 128, 128);
-        breaks(x, 2, 13, 0, 128, 128, 128, 128, 16);
-        breaks(x, 2, 12, 0, 255, 255, 255, 255, 15);
-        breaks(x, 2, 12, 0, 225, 93);
-        breaks(x, 2, 14, 2, 224, 93);
-        breaks(x, 2, 1, 2, 5, 240);
-        breaks(x, 2, 1, 3, 5, 244, 0);
-        breaks(x, 2, 1, 5, 5, 252, 0, 0, 0);
-        breaks(x, 2, 1, 3, 5, 4, "a");
-        breaks(x, 2, 1, 4, 5, 0, "a", 1);
-        breaks(x, 2, 1, 5, 5, 0, "a", 2, 1);
-        breaks(x, 2, 1, 7, 5, 0, "a", 3, 1, 0, 0);
-        breaks(x, 2, 14, 1, 1, 4, "ab");
-        breaks(x, 2, 14, 1, 1, 252, 255, 255, 255, 255);
-        breaks(x, 2, 14, 3, 4, 0, "a", 1, 0);
-        breaks(x, 2, 14, 3, 1, 0, "a", 0, "b");
-        breaks(x, 2, 14, 3, 2, 0, "a");
-        breaks(x, 2, 14, 1, 1);
-        breaks(x, 2, 14, 1, 0, 0);
-        breaks(x, 2, 1, 2, 0, 240);
-        breaks(x, 2, 2, 3, 5, 0, "a", 1, 0);
-        breaks(x, 2, 2, 3, 5, 0, "a", 1, 2);
-        breaks(x, 2, 2, 1, 4, 1, 1);
-        breaks(x, 2, 2, 3, 5, 0, "a", 3 * 4 + 2, 2, 0);
-        breaks(x, 2, 2, 3, 5, 0, "a", 3 * 4 + 3, 255, 255, 255, 255);
-        breaks(x, 2, 2, 3, 5, 0, "a", 3 * 4 + 3, 1, 0, 0, 1);
-    }
-
-    private static int[] head(int flags, int w, Object... told) {
-        int[] some = bytes(flags, w, bytes(told));
-        return bytes(4, 34, 77, 24, some, sumOf(some)[1]);
+        opens(something("not leant on"), 2, bytes(), 0);
+        opens(something("not leant on"), 2, bytes(), 128, 128, 128, 128, 0);
+        opens(something("not leant on"), 2, bytes("ab"), 2, 4, "ab");
+        opens(something("not leant on"), 2, bytes("ab"), 2, 240, 1, "ab");
+        opens(something("not leant on"), 2, bytes("ab"), 2, 244, 1, 0, "ab");
+        opens(something("not leant on"), 2, bytes("ab"), 2, 248, 1, 0, 0, "ab");
+        opens(something("not leant on"), 2, bytes("ab"), 2, 252, 1, 0, 0, 0, "ab");
+        opens(something("not leant on"), 2, bytes("abcabca"), 7, 8, "abc", 1, 3);
+        opens(something("not leant on"), 2, bytes("abcb"), 4, 8, "abc", 2, 2, 0);
+        opens(something("not leant on"), 2, bytes("abcbcbc"), 7, 8, "abc", 3 * 4 + 3, 2, 0, 0, 0);
+        opens(something("not leant on"), 2, bytes(unlike(300), times(11, 255)), 183, 2, 244, 43, 1, unlike(300), 7 * 4 + 1, 1);
+        opens(something("not leant on"), 2, bytes(unlike(300), 0, 0), 174, 2, 244, 43, 1, unlike(300), 4 + 2, 44, 1);
+        opens(something("not leant on"), 2, bytes(unlike(300), 0, 0, 0, 255), 176, 2, 244, 43, 1, unlike(300), 32 + 1, 44);
+        breaks(something("not leant on"), 2, 1, 0);
+        breaks(something("not leant on"), 2, 1, 1, 128);
+        breaks(something("not leant on"), 2, 1, 4, 255, 255, 255, 255);
+        breaks(something("not leant on"), 2, 13, 0, 128, 128, 128, 128, 128, 0);
+        breaks(something("not leant on"), 2, 13, 0, 128, 128, 128, 128, 128);
+        breaks(something("not leant on"), 2, 13, 0, 128, 128, 128, 128, 16);
+        breaks(something("not leant on"), 2, 12, 0, 255, 255, 255, 255, 15);
+        breaks(something("not leant on"), 2, 12, 0, 225, 93);
+        breaks(something("not leant on"), 2, 14, 2, 224, 93);
+        breaks(something("not leant on"), 2, 1, 2, 5, 240);
+        breaks(something("not leant on"), 2, 1, 3, 5, 244, 0);
+        breaks(something("not leant on"), 2, 1, 5, 5, 252, 0, 0, 0);
+        breaks(something("not leant on"), 2, 1, 3, 5, 4, "a");
+        breaks(something("not leant on"), 2, 1, 4, 5, 0, "a", 1);
+        breaks(something("not leant on"), 2, 1, 5, 5, 0, "a", 2, 1);
+        breaks(something("not leant on"), 2, 1, 7, 5, 0, "a", 3, 1, 0, 0);
+        breaks(something("not leant on"), 2, 14, 1, 1, 4, "ab");
+        breaks(something("not leant on"), 2, 14, 1, 1, 252, 255, 255, 255, 255);
+        breaks(something("not leant on"), 2, 14, 3, 4, 0, "a", 1, 0);
+        breaks(something("not leant on"), 2, 14, 3, 1, 0, "a", 0, "b");
+        breaks(something("not leant on"), 2, 14, 3, 2, 0, "a");
+        breaks(something("not leant on"), 2, 14, 1, 1);
+        breaks(something("not leant on"), 2, 14, 1, 0, 0);
+        breaks(something("not leant on"), 2, 1, 2, 0, 240);
+        breaks(something("not leant on"), 2, 2, 3, 5, 0, "a", 1, 0);
+        breaks(something("not leant on"), 2, 2, 3, 5, 0, "a", 1, 2);
+        breaks(something("not leant on"), 2, 2, 1, 4, 1, 1);
+        breaks(something("not leant on"), 2, 2, 3, 5, 0, "a", 3 * 4 + 2, 2, 0);
+        breaks(something("not leant on"), 2, 2, 3, 5, 0, "a", 3 * 4 + 3, 255, 255, 255, 255);
+        breaks(something("not leant on"), 2, 2, 3, 5, 0, "a", 3 * 4 + 3, 1, 0, 0, 1);
     }
 
     private static void openFrames() {
-        FastBlocks x = with(bytes("something"));
-        x.pack(0, 0);
+        Counted x = something();
         int[] end = {0, 0, 0, 0};
         int[] plain = head(96, 64);
         int[] raw = bytes(3, 0, 0, 128, "abc");
-        opens(x, 1, bytes());
-        opens(x, 1, bytes(), plain, end);
-        opens(x, 1, bytes("abc"), plain, raw, end);
-        opens(x, 1, bytes("abcdef"), plain, raw, 4, 0, 0, 0, 0x30, "def", end);
-        opens(x, 1, bytes("abcabc"), plain, raw, end, 85, 42, 77, 24, 2, 0, 0, 0, 1, 2, head(64, 112), raw, end);
+        opens(1, bytes());
+        opens(1, bytes(), plain, end);
+        opens(1, bytes("abc"), plain, raw, end);
+        opens(1, bytes("abcdef"), plain, raw, 4, 0, 0, 0, 0x30, "def", end);
+        opens(1, bytes("abcabc"), plain, raw, end, 85, 42, 77, 24, 2, 0, 0, 0, 1, 2, head(64, 112), raw, end);
         opens(x, 1, bytes(), plain, 0, 0, 0, 128, end);
         due("13 a raw block of none", x.block(0, 3), 1);
         int[] many = new int[4 * 997];
@@ -651,43 +565,44 @@ public final class PromiseTest {
         opens(x, 1, bytes(), plain, many, end);
         due("13 all that an input can have", x.told(3), 997);
         due("13 the last one", x.block(996, 0), 7 + 4 * 997);
-        breaks(x, 1, 1, 3, 4, 34, 77);
-        breaks(x, 1, 4, 0, 4, 34, 77, 25);
-        breaks(x, 1, 4, 0, 79, 42, 77, 24, end);
-        breaks(x, 1, 4, 0, 96, 42, 77, 24, end);
-        breaks(x, 1, 4, 11, plain, end, 5, 34, 77, 24);
-        breaks(x, 1, 1, 12, plain, end, 4);
-        breaks(x, 1, 1, 7, 80, 42, 77, 24, 0, 0, 0);
-        breaks(x, 1, 1, 9, 80, 42, 77, 24, 2, 0, 0, 0, 1);
-        breaks(x, 1, 1, 9, 80, 42, 77, 24, 255, 255, 255, 255, 1);
-        breaks(x, 1, 1, 4, 4, 34, 77, 24);
+        breaks(1, 1, 3, 4, 34, 77);
+        breaks(1, 4, 0, 4, 34, 77, 25);
+        breaks(1, 4, 0, 79, 42, 77, 24, end);
+        breaks(1, 4, 0, 96, 42, 77, 24, end);
+        breaks(1, 4, 11, plain, end, 5, 34, 77, 24);
+        breaks(1, 1, 12, plain, end, 4);
+        breaks(1, 1, 7, 80, 42, 77, 24, 0, 0, 0);
+        breaks(1, 1, 9, 80, 42, 77, 24, 2, 0, 0, 0, 1);
+        breaks(1, 1, 9, 80, 42, 77, 24, 255, 255, 255, 255, 1);
+        breaks(1, 1, 4, 4, 34, 77, 24);
         for (int flags : new int[] {0, 32, 128 + 64, 128, 66, 98}) {
-            breaks(x, 1, 5, 4, 4, 34, 77, 24, flags);
+            breaks(1, 5, 4, 4, 34, 77, 24, flags);
         }
-        breaks(x, 1, 1, 5, 4, 34, 77, 24, 96);
+        breaks(1, 1, 5, 4, 34, 77, 24, 96);
         for (int w : new int[] {48, 65, 72, 128, 192, 0, 255}) {
-            breaks(x, 1, 5, 5, 4, 34, 77, 24, 96, w);
+            breaks(1, 5, 5, 4, 34, 77, 24, 96, w);
         }
-        breaks(x, 1, 1, 6, 4, 34, 77, 24, 96, 64);
-        breaks(x, 1, 1, 14, 4, 34, 77, 24, 104, 64, number(0, 8));
-        breaks(x, 1, 1, 10, 4, 34, 77, 24, 97, 64, number(7, 4));
-        breaks(x, 1, 6, 6, 4, 34, 77, 24, 96, 64, sumOf(bytes(96, 64))[1] ^ 1, end);
-        breaks(x, 1, 6, 10, 4, 34, 77, 24, 97, 64, number(7, 4), sumOf(bytes(97, 64, number(7, 4)))[1] ^ 1, end);
-        ids(x, end);
-        breaks(x, 1, 1, 10, plain, 0, 0, 0);
-        breaks(x, 1, 7, 7, plain, number(65537, 4));
-        breaks(x, 1, 1, 11, plain, number(65536, 4));
-        breaks(x, 1, 7, 7, plain, number((1L << 31) + 65537, 4));
-        breaks(x, 1, 7, 7, head(96, 80), number(262145, 4));
-        breaks(x, 1, 1, 11, head(96, 112), number(4194304, 4));
-        breaks(x, 1, 7, 7, head(96, 112), number((1L << 32) - 1, 4));
-        breaks(x, 1, 1, 13, plain, 3, 0, 0, 128, "ab");
-        sums(x, end, raw);
-        leaning(x, end);
-        tooMany(x, end);
+        breaks(1, 1, 6, 4, 34, 77, 24, 96, 64);
+        breaks(1, 1, 14, 4, 34, 77, 24, 104, 64, number(0, 8));
+        breaks(1, 1, 10, 4, 34, 77, 24, 97, 64, number(7, 4));
+        breaks(1, 6, 6, 4, 34, 77, 24, 96, 64, sumOf(bytes(96, 64))[1] ^ 1, end);
+        breaks(1, 6, 10, 4, 34, 77, 24, 97, 64, number(7, 4), sumOf(bytes(97, 64, number(7, 4)))[1] ^ 1, end);
+        ids(end);
+        breaks(1, 1, 10, plain, 0, 0, 0);
+        breaks(1, 7, 7, plain, number(65537, 4));
+        breaks(1, 1, 11, plain, number(65536, 4));
+        breaks(1, 7, 7, plain, number((1L << 31) + 65537, 4));
+        breaks(1, 7, 7, head(96, 80), number(262145, 4));
+        breaks(1, 1, 11, head(96, 112), number(4194304, 4));
+        breaks(1, 7, 7, head(96, 112), number((1L << 32) - 1, 4));
+        breaks(1, 1, 13, plain, 3, 0, 0, 128, "ab");
+        sums(end, raw);
+        leaning(end);
+        tooMany(end);
     }
 
-    private static void ids(FastBlocks x, int[] end) {
+    private static void ids(int[] end) {
+        Counted x = something();
         breaks(x, 1, 11, 6, head(97, 64, number(7, 4)), end);
         opens(x, 1, bytes(), head(97, 64, number(0, 4)), end);
         x.set(5, 0x80000007);
@@ -698,36 +613,36 @@ public final class PromiseTest {
         x.set(5, 0);
     }
 
-    private static void sums(FastBlocks x, int[] end, int[] raw) {
+    private static void sums(int[] end, int[] raw) {
         int[] withSums = head(112, 64);
-        opens(x, 1, bytes("abc"), withSums, raw, sumOf(bytes("abc")), end);
-        breaks(x, 1, 8, 14, withSums, raw, sumOf(bytes("abd")), end);
-        breaks(x, 1, 1, 17, withSums, raw, 1, 2, 3);
+        opens(1, bytes("abc"), withSums, raw, sumOf(bytes("abc")), end);
+        breaks(1, 8, 14, withSums, raw, sumOf(bytes("abd")), end);
+        breaks(1, 1, 17, withSums, raw, 1, 2, 3);
         // The sum is asked before the block is opened, which would break rule 3.
-        breaks(x, 1, 8, 12, withSums, 1, 0, 0, 0, 1, sumOf(bytes(2)), end);
-        breaks(x, 1, 3, 11, withSums, 1, 0, 0, 0, 1, sumOf(bytes(1)), end);
+        breaks(1, 8, 12, withSums, 1, 0, 0, 0, 1, sumOf(bytes(2)), end);
+        breaks(1, 3, 11, withSums, 1, 0, 0, 0, 1, sumOf(bytes(1)), end);
         int[] sized = head(104, 64, number(3, 8));
-        opens(x, 1, bytes("abc"), sized, raw, end);
-        breaks(x, 1, 9, 15, sized, end);
-        breaks(x, 1, 9, 22, head(104, 64, number(3 + (1L << 32), 8)), raw, end);
+        opens(1, bytes("abc"), sized, raw, end);
+        breaks(1, 9, 15, sized, end);
+        breaks(1, 9, 22, head(104, 64, number(3 + (1L << 32), 8)), raw, end);
         int[] summed = head(100, 64);
-        opens(x, 1, bytes("abc"), summed, raw, end, sumOf(bytes("abc")));
-        breaks(x, 1, 10, 18, summed, raw, end, sumOf(bytes("abd")));
-        breaks(x, 1, 1, 20, summed, raw, end, 1, 2);
-        breaks(x, 1, 9, 22, head(108, 64, number(4, 8)), raw, end);
+        opens(1, bytes("abc"), summed, raw, end, sumOf(bytes("abc")));
+        breaks(1, 10, 18, summed, raw, end, sumOf(bytes("abd")));
+        breaks(1, 1, 20, summed, raw, end, 1, 2);
+        breaks(1, 9, 22, head(108, 64, number(4, 8)), raw, end);
         // The sum and the size are those of their own frame.
-        opens(x, 1, bytes("abcabc"), head(108, 64, number(3, 8)), raw, end, sumOf(bytes("abc")),
+        opens(1, bytes("abcabc"), head(108, 64, number(3, 8)), raw, end, sumOf(bytes("abc")),
                 head(108, 64, number(3, 8)), raw, end, sumOf(bytes("abc")));
     }
 
-    private static void leaning(FastBlocks x, int[] end) {
+    private static void leaning(int[] end) {
         int[] copy = bytes(9, 0, 0, 0, 3, 3, 0, 0x50, "vwxyz");
         int[] raw = bytes(3, 0, 0, 128, "abc");
-        opens(x, 1, bytes("abcabcabcavwxyz"), head(64, 64), raw, copy, end);
-        breaks(x, 1, 2, 19, head(96, 64), raw, copy, end);
+        opens(1, bytes("abcabcabcavwxyz"), head(64, 64), raw, copy, end);
+        breaks(1, 2, 19, head(96, 64), raw, copy, end);
         // What came of another frame is not there; the dictionary is, in each.
-        breaks(x, 1, 2, 30, head(64, 64), raw, end, head(64, 64), copy, end);
-        FastBlocks y = withWords(bytes("xy"));
+        breaks(1, 2, 30, head(64, 64), raw, end, head(64, 64), copy, end);
+        Counted y = withWords(bytes("xy"));
         breaks(y, 1, 2, 30, head(64, 64), raw, end, head(64, 64), copy, end);
         y = withWords(bytes("wxy"));
         opens(y, 1, bytes("abcwxywxywvwxyz"), head(64, 64), raw, end, head(64, 64), copy, end);
@@ -735,58 +650,56 @@ public final class PromiseTest {
         int[] longer = bytes(9, 0, 0, 0, 3, 5, 0, 0x50, "vwxyz");
         opens(y, 1, bytes("abcxyabcxyvwxyz"), head(64, 64), raw, longer, end);
         // Bytes that lack in a block lack at its end.
-        breaks(x, 1, 1, 13, head(96, 64), 2, 0, 0, 0, 0x20, "a", raw, end);
-        breaks(x, 1, 3, 11, head(96, 64), 2, 0, 0, 0, 0x11, "a", raw, end);
+        breaks(1, 1, 13, head(96, 64), 2, 0, 0, 0, 0x20, "a", raw, end);
+        breaks(1, 3, 11, head(96, 64), 2, 0, 0, 0, 0x11, "a", raw, end);
     }
 
-    private static void tooMany(FastBlocks x, int[] end) {
+    private static void tooMany(int[] end) {
         // A block of 57 bytes, of which 12,000 come; then one more, raw or not.
         int[] most = bytes(57, 0, 0, 0, 0x1F, "a", 1, 0, times(46, 255), 245, 0x50, "bcdef");
-        opens(x, 1, bytes(times(11995, 97), "bcdef"), head(96, 64), most, end);
-        breaks(x, 1, 12, 68, head(96, 64), most, 1, 0, 0, 128, "x", end);
-        breaks(x, 1, 12, 72, head(96, 64), most, 2, 0, 0, 0, 0x10, "x", end);
-        opens(x, 1, bytes(times(11995, 97), "bcdef"), head(96, 64), most, 0, 0, 0, 128, 1, 0, 0, 0, 0, end);
-        breaks(x, 1, 12, 79, head(96, 64), most, end, head(96, 64), 1, 0, 0, 128, "x", end);
+        opens(1, bytes(times(11995, 97), "bcdef"), head(96, 64), most, end);
+        breaks(1, 12, 68, head(96, 64), most, 1, 0, 0, 128, "x", end);
+        breaks(1, 12, 72, head(96, 64), most, 2, 0, 0, 0, 0x10, "x", end);
+        opens(1, bytes(times(11995, 97), "bcdef"), head(96, 64), most, 0, 0, 0, 128, 1, 0, 0, 0, 0, end);
+        breaks(1, 12, 79, head(96, 64), most, end, head(96, 64), 1, 0, 0, 128, "x", end);
     }
 
     private static void openChunks() {
-        FastBlocks x = with(bytes("something"));
-        x.pack(0, 0);
         int[] first = bytes(255, 6, 0, 0, "sNaPpY");
-        opens(x, 3, bytes(), first);
-        opens(x, 3, bytes(), first, first, 128, 0, 0, 0, 254, 2, 0, 0, 1, 2);
-        opens(x, 3, bytes("abc"), first, 1, 7, 0, 0, crcOf(bytes("abc")), "abc");
-        opens(x, 3, bytes("aaaaa"), first, 0, 9, 0, 0, crcOf(bytes("aaaaa")), 5, 0, "a", 1, 1);
-        opens(x, 3, bytes(), first, 1, 4, 0, 0, crcOf(bytes()), 0, 5, 0, 0, crcOf(bytes()), 0);
-        breaks(x, 3, 1, 0);
-        breaks(x, 3, 4, 0, 0);
-        breaks(x, 3, 4, 0, 254, 0, 0, 0, first);
-        breaks(x, 3, 1, 1, 255);
-        breaks(x, 3, 1, 3, 255, 7, 0);
-        breaks(x, 3, 4, 0, 255, 7, 0, 0);
-        breaks(x, 3, 1, 9, 255, 6, 0, 0, "sNaPp");
-        breaks(x, 3, 4, 0, 255, 6, 0, 0, "sNaPpy");
-        breaks(x, 3, 4, 10, first, 255, 6, 0, 0, "SNaPpY");
-        breaks(x, 3, 4, 10, first, 255, 6, 0, 1);
-        breaks(x, 3, 1, 11, first, 2);
-        breaks(x, 3, 15, 10, first, 2, 0, 0, 0);
-        breaks(x, 3, 15, 10, first, 127, 255, 255, 255);
-        breaks(x, 3, 15, 10, first, 0, 3, 0, 0);
-        breaks(x, 3, 15, 10, first, 1, 3, 0, 0, 1, 2, 3);
-        breaks(x, 3, 1, 17, first, 1, 4, 0, 0, 1, 2, 3);
-        breaks(x, 3, 1, 14, first, 128, 1, 0, 0);
-        breaks(x, 3, 8, 14, first, 1, 7, 0, 0, crcOf(bytes("abd")), "abc");
-        breaks(x, 3, 8, 14, first, 0, 8, 0, 0, crcOf(bytes("abd")), 2, 4, "ab");
+        opens(3, bytes(), first);
+        opens(3, bytes(), first, first, 128, 0, 0, 0, 254, 2, 0, 0, 1, 2);
+        opens(3, bytes("abc"), first, 1, 7, 0, 0, crcOf(bytes("abc")), "abc");
+        opens(3, bytes("aaaaa"), first, 0, 9, 0, 0, crcOf(bytes("aaaaa")), 5, 0, "a", 1, 1);
+        opens(3, bytes(), first, 1, 4, 0, 0, crcOf(bytes()), 0, 5, 0, 0, crcOf(bytes()), 0);
+        breaks(3, 1, 0);
+        breaks(3, 4, 0, 0);
+        breaks(3, 4, 0, 254, 0, 0, 0, first);
+        breaks(3, 1, 1, 255);
+        breaks(3, 1, 3, 255, 7, 0);
+        breaks(3, 4, 0, 255, 7, 0, 0);
+        breaks(3, 1, 9, 255, 6, 0, 0, "sNaPp");
+        breaks(3, 4, 0, 255, 6, 0, 0, "sNaPpy");
+        breaks(3, 4, 10, first, 255, 6, 0, 0, "SNaPpY");
+        breaks(3, 4, 10, first, 255, 6, 0, 1);
+        breaks(3, 1, 11, first, 2);
+        breaks(3, 15, 10, first, 2, 0, 0, 0);
+        breaks(3, 15, 10, first, 127, 255, 255, 255);
+        breaks(3, 15, 10, first, 0, 3, 0, 0);
+        breaks(3, 15, 10, first, 1, 3, 0, 0, 1, 2, 3);
+        breaks(3, 1, 17, first, 1, 4, 0, 0, 1, 2, 3);
+        breaks(3, 1, 14, first, 128, 1, 0, 0);
+        breaks(3, 8, 14, first, 1, 7, 0, 0, crcOf(bytes("abd")), "abc");
+        breaks(3, 8, 14, first, 0, 8, 0, 0, crcOf(bytes("abd")), 2, 4, "ab");
         // What is in form 2 comes before the CRC; what lacks in a chunk lacks at its end.
-        breaks(x, 3, 1, 18, first, 0, 4, 0, 0, 1, 2, 3, 4, 128, 0, 0, 0);
-        breaks(x, 3, 1, 20, first, 0, 6, 0, 0, 1, 2, 3, 4, 2, 4, "ab");
-        breaks(x, 3, 14, 21, first, 0, 7, 0, 0, 1, 2, 3, 4, 2, 0, "a", first);
-        breaks(x, 3, 14, 19, first, 0, 8, 0, 0, 1, 2, 3, 4, 1, 4, "ab", first);
-        breaks(x, 3, 2, 28, first, 1, 5, 0, 0, crcOf(bytes("a")), "a", 0, 7, 0, 0, 1, 2, 3, 4, 4, 1, 1);
-        chunksOfMany(x, first);
+        breaks(3, 1, 18, first, 0, 4, 0, 0, 1, 2, 3, 4, 128, 0, 0, 0);
+        breaks(3, 1, 20, first, 0, 6, 0, 0, 1, 2, 3, 4, 2, 4, "ab");
+        breaks(3, 14, 21, first, 0, 7, 0, 0, 1, 2, 3, 4, 2, 0, "a", first);
+        breaks(3, 14, 19, first, 0, 8, 0, 0, 1, 2, 3, 4, 1, 4, "ab", first);
+        breaks(3, 2, 28, first, 1, 5, 0, 0, crcOf(bytes("a")), "a", 0, 7, 0, 0, 1, 2, 3, 4, 4, 1, 1);
+        chunksOfMany(first);
     }
 
-    private static void chunksOfMany(FastBlocks x, int[] first) {
+    private static void chunksOfMany(int[] first) {
         // 12,000 come of copies of 64; then one more, raw or not.
         int[] copies = new int[3 * 187];
         for (int i = 0; i < copies.length; i += 3) {
@@ -795,14 +708,14 @@ public final class PromiseTest {
         }
         int[] all = times(12000, 97);
         int[] most = bytes(first, 0, number(4 + 2 + 2 + 561 + 3, 3), crcOf(all), 224, 93, 0, 97, copies, 30 * 4 + 2, 1, 0);
-        opens(x, 3, all, most);
-        breaks(x, 3, 12, most.length, most, 1, 5, 0, 0, 1, 2, 3, 4, "x");
-        breaks(x, 3, 12, most.length + 8, most, 0, 7, 0, 0, 1, 2, 3, 4, 1, 0, "x");
-        opens(x, 3, all, most, 1, 4, 0, 0, crcOf(bytes()));
+        opens(3, all, most);
+        breaks(3, 12, most.length, most, 1, 5, 0, 0, 1, 2, 3, 4, "x");
+        breaks(3, 12, most.length + 8, most, 0, 7, 0, 0, 1, 2, 3, 4, 1, 0, "x");
+        opens(3, all, most, 1, 4, 0, 0, crcOf(bytes()));
     }
 
     private static void rule() {
-        FastBlocks x = new FastBlocks();
+        Counted x = new Counted();
         due("12 -1", x.rule(-1), BAD);
         due("12 2", x.rule(2), BAD);
         x.open(0);
@@ -817,14 +730,14 @@ public final class PromiseTest {
         due("12 no place", x.rule(1), NONE);
     }
 
-    private static void dueBlock(String what, FastBlocks x, int i, int... want) {
+    private static void dueBlock(String what, Counted x, int i, int... want) {
         for (int k = 0; k < 7; k++) {
             due("13 " + what + ": block(" + i + ", " + k + ")", x.block(i, k), want[k]);
         }
     }
 
     private static void block() {
-        FastBlocks x = new FastBlocks();
+        Counted x = new Counted();
         due("13 none yet", x.block(0, 0), NONE);
         due("13 what -1", x.block(0, -1), BAD);
         due("13 what 7", x.block(0, 7), BAD);
@@ -881,7 +794,7 @@ public final class PromiseTest {
     }
 
     private static void longestAndNear() {
-        FastBlocks x = withWords(bytes("abcde"));
+        Counted x = withWords(bytes("abcde"));
         due("14 of no input", x.longest(0), BAD);
         due("15 of no input", x.near(0, 1), BAD);
         load(x, bytes("deabcxabcdeabcdq"));
@@ -917,7 +830,7 @@ public final class PromiseTest {
     }
 
     private static void sum() {
-        FastBlocks x = new FastBlocks();
+        Counted x = new Counted();
         due("16 of none", x.sum(0), 46947589L);
         due("16 CRC of none", x.sum(1), 0);
         due("16 masked of none", x.sum(2), 2726488792L);
@@ -928,11 +841,11 @@ public final class PromiseTest {
         due("16 of nine digits", x.sum(0), 0x937bad67L);
         due("16 CRC of nine digits", x.sum(1), 0xE3069283L);
         due("16 masked", x.sum(2), 0xc78ab0e5L);
-        for (int n : new int[] {1, 3, 4, 15, 16, 17, 31, 32, 33, 1000}) {
-            load(x, unlike(n));
-            x.pack(3, 0);
+        for (int n : new int[] {1, 3, 4, 15, 16, 17, 31, 32, 33, 400}) {
+            x = with(unlike(n));
+            int bytes = x.pack(3, 0);
             List<Integer> all = new ArrayList<>();
-            for (int i = 0; i < x.told(1); i++) {
+            for (int i = 0; i < bytes; i++) {
                 all.add(x.out(i));
             }
             due("16 of " + all.size(), x.sum(0), PlainModel.sumOf(all));
@@ -942,7 +855,7 @@ public final class PromiseTest {
     }
 
     private static void bound() {
-        FastBlocks x = new FastBlocks();
+        Counted x = new Counted();
         due("17 form 0 of 0", x.bound(0, 0), 16);
         due("17 form 0 of 254", x.bound(0, 254), 270);
         due("17 form 0 of 255", x.bound(0, 255), 272);
@@ -959,7 +872,7 @@ public final class PromiseTest {
     }
 
     private static void told() {
-        FastBlocks x = withWords(bytes("abcd"));
+        Counted x = withWords(bytes("abcd"));
         load(x, bytes("abcdef"));
         due("18 input", x.told(0), 6);
         due("18 out", x.told(1), 0);
