@@ -188,8 +188,10 @@ public final class EdgeTest extends Due {
             }
         }
         // All that there is room for.
-        packs(0, 2, unlike(4000), 0xF0, times(15, 255), 160, unlike(4000));
-        packs(0, 2, times(4000, 97), 0x1F, 97, 1, 0, times(15, 255), 150, 0x50, times(5, 97));
+        for (int level = 0; level <= 2; level++) {
+            packs(0, level, unlike(4000), 0xF0, times(15, 255), 160, unlike(4000));
+            packs(0, level, times(4000, 97), 0x1F, 97, 1, 0, times(15, 255), 150, 0x50, times(5, 97));
+        }
     }
 
     /** AT THE END, and "The LAST SEQUENCE ends behind its LITERALS; its M is 0". */
@@ -645,8 +647,10 @@ public final class EdgeTest extends Due {
         for (int i = 0; i < many.length; i++) {
             many[i] = copy64[i % 3];
         }
-        packs(2, 2, times(3980, 97), 128 + 3980 % 128, 31, 0, 97, many, 7 * 4 + 1, 1);
-        packs(2, 2, times(4000, 97), 128 + 4000 % 128, 31, 0, 97, many, 30 * 4 + 2, 1, 0);
+        for (int level = 0; level <= 2; level++) {
+            packs(2, level, times(3980, 97), 128 + 3980 % 128, 31, 0, 97, many, 7 * 4 + 1, 1);
+            packs(2, level, times(4000, 97), 128 + 4000 % 128, 31, 0, 97, many, 30 * 4 + 2, 1, 0);
+        }
         // Four bytes nearby and five from the next one on are cheaper than five from far and four.
         int[] between = bytes(unlike(2039), 254);
         packs(2, 2, bytes("wxyz!", between, "wxyz", "?!PQRS.", "wxyz!PQRS"), 128 + 2065 % 128, 2065 / 128,
