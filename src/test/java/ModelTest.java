@@ -34,7 +34,7 @@ public final class ModelTest {
 
     private static void packAndOpen() {
         for (int seed = 0; seed < 1500; seed++) {
-            Random random = new Random(seed);
+            Random random = Pair.random(seed);
             Pair pair = new Pair("pack " + seed);
             setAtRandom(pair, random);
             int form = random.nextInt(4);
@@ -69,7 +69,7 @@ public final class ModelTest {
 
     private static void openDamaged() {
         for (int seed = 0; seed < 1500; seed++) {
-            Random random = new Random(5000 + seed);
+            Random random = Pair.random(5000 + seed);
             Pair pair = new Pair("damage " + seed);
             setAtRandom(pair, random);
             int form = random.nextInt(4);
@@ -119,7 +119,7 @@ public final class ModelTest {
 
     private static void openNoise() {
         for (int seed = 0; seed < 3000; seed++) {
-            Random random = new Random(20000 + seed);
+            Random random = Pair.random(20000 + seed);
             Pair pair = new Pair("noise " + seed);
             if (random.nextBoolean()) {
                 pair.load(Pair.someBytes(random, 1 + random.nextInt(40)));
@@ -143,7 +143,7 @@ public final class ModelTest {
     /** Blocks in which literals and copies take one, two and more added bytes. */
     private static void longBlocks() {
         for (int seed = 0; seed < 60; seed++) {
-            Random random = new Random(90000 + seed);
+            Random random = Pair.random(90000 + seed);
             Pair pair = new Pair("long " + seed);
             int n = 300 + random.nextInt(1200);
             int[] bytes = new int[n];
@@ -171,7 +171,7 @@ public final class ModelTest {
         int[] edges = {4, 5, 11, 12, 14, 15, 16, 18, 19, 20, 59, 60, 61, 64, 65, 68, 255, 256, 257, 269, 270, 271, 273, 274,
             275, 525, 529};
         for (int seed = 0; seed < 90; seed++) {
-            Random random = new Random(110000 + seed);
+            Random random = Pair.random(110000 + seed);
             int n = 300 + random.nextInt(700);
             int[] bytes = new int[n];
             int symbols = 8 + random.nextInt(60);
@@ -194,7 +194,7 @@ public final class ModelTest {
     /** As many bytes as there is room for, with a dictionary. */
     private static void fullBlocks() {
         for (int seed = 0; seed < 6; seed++) {
-            Random random = new Random(130000 + seed);
+            Random random = Pair.random(130000 + seed);
             Pair pair = new Pair("full " + seed);
             int[] words = new int[1000];
             for (int i = 0; i < 1000; i++) {
@@ -224,7 +224,7 @@ public final class ModelTest {
 
     private static void anyCalls() {
         for (int seed = 0; seed < 400; seed++) {
-            Random random = new Random(70000 + seed);
+            Random random = Pair.random(70000 + seed);
             Pair pair = new Pair("any " + seed);
             int repeated = random.nextInt();
             for (int call = 0; call < 120; call++) {

@@ -139,6 +139,11 @@ final class Pair {
         out(told(1));
     }
 
+    /** Seeds side by side would draw nearly the same first numbers, so they are spread. */
+    static Random random(long seed) {
+        return new Random(seed * 0x9E3779B97F4A7C15L);
+    }
+
     /** Bytes with more or less to copy in them. */
     static int[] someBytes(Random random, int n) {
         int[] bytes = new int[n];

@@ -111,7 +111,7 @@ public final class RoomTest {
 
     private static void callWithOddNumbers() {
         for (int seed = 0; seed < 1500; seed++) {
-            Random random = new Random(seed);
+            Random random = Pair.random(seed);
             FastBlocks x = new FastBlocks();
             int call = 0;
             try {

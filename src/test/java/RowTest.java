@@ -9,7 +9,7 @@ public final class RowTest {
 
     public static void main(String[] args) {
         for (int seed = 0; seed < 400; seed++) {
-            Random random = new Random(seed);
+            Random random = Pair.random(seed);
             elements(someBytes(random, random.nextInt(11), 1 + random.nextInt(3)));
             sequences(someBytes(random, random.nextInt(6), 2), someBytes(random, random.nextInt(22), 1 + random.nextInt(3)));
         }
