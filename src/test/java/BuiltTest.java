@@ -8,7 +8,9 @@ import java.util.Random;
  * fault, opened by the class and by the plain model. (In bytes that are only damaged a sum is wrong before all else.)
  */
 public final class BuiltTest extends Due {
-    private static final int RUNS = 4000;
+    private static final int RUNS = 6000;
+    // So many bytes that a few more are more than there is room for.
+    private static final int ALMOST_ALL = 11920;
     // How often each rule was the broken one; 0: none was.
     private static final int[] met = new int[16];
 
@@ -109,7 +111,7 @@ public final class BuiltTest extends Due {
 
     private int someLength() {
         if (great && random.nextInt(3) == 0) {
-            return random.nextInt(6000);
+            return random.nextBoolean() ? random.nextInt(6000) : ALMOST_ALL + random.nextInt(60);
         }
         return random.nextInt(4) == 0 ? 13 + random.nextInt(300) : random.nextInt(15);
     }
@@ -218,9 +220,12 @@ public final class BuiltTest extends Due {
         for (int n = random.nextInt(6); n > 0; n--) {
             built = bytes(built, there.isEmpty() || random.nextBoolean() ? literalElement(there) : copyElement(there));
         }
+        if (great && !there.isEmpty() && random.nextInt(3) == 0) {
+            built = bytes(built, manyCopies(there));
+        }
         long told = there.size();
         if (fault()) {
-            told = random.nextInt(4) == 0 ? 1L << 28 + random.nextInt(7) : Math.max(0, told + random.nextInt(3) - 1);
+            told = random.nextBoolean() ? 1L << (28 + random.nextInt(7)) : Math.max(0, told + random.nextInt(3) - 1);
         } else if (great && random.nextBoolean()) {
             told += random.nextInt(14000);
         }
@@ -261,6 +266,15 @@ public final class BuiltTest extends Due {
             return bytes(32 * (offset / 256) + 4 * (length - 4) + 1, offset % 256);
         }
         return bytes(4 * (length - 1) + kind, number(offset, kind == 2 ? 2 : 4));
+    }
+
+    private int[] manyCopies(List<Integer> there) {
+        int[] built = {};
+        while (there.size() < ALMOST_ALL + random.nextInt(60)) {
+            copyAgain(there, 1, 64);
+            built = bytes(built, 4 * 63 + 2, number(1, 2));
+        }
+        return built;
     }
 
     private int[] chunks() {
